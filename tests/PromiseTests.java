@@ -182,6 +182,11 @@ public final class PromiseTests {
         fault("0 1 3 3;", 1, 6);
         fault("0 1 nevermore;", 1, 4);
         fault("0 1 neve", 1, 4);
+        fault("0 1 nevera;", 1, 4);
+        fault("0 1 neverz;", 1, 4);
+        fault("0 1 often;", 1, 4);
+        fault("0 1 mirrors;", 1, 4);
+        fault("minnors 3;", 1, 0);
         fault("0 1 ne ver;", 1, 4);
         fault("0 1 never4;", 1, 9);
         fault("0 1 neverA;", 1, 9);
@@ -726,6 +731,8 @@ public final class PromiseTests {
         due("p(w, w, 1)", x.p(w, w, 1), 0);
         due("p(w, s, 0)", x.p(w, s, 0), 0);
         due("p(v, w, 0)", x.p(v, w, 0), 0);
+        due("p(v, e, 0)", x.p(v, 0, 0), 0);
+        due("p(e, e, 0)", x.p(0, 0, 0), 1);
         due("p(0, 01210, 1)", x.p(0, v, 1), 1);
         due("p(0, w, far)", x.p(0, w, Integer.MAX_VALUE), 0);
         int eight = keep(x, "01021032"), nine = keep(x, "010210321");
@@ -764,6 +771,7 @@ public final class PromiseTests {
         due("leans(w, s)", x.leans(w, s), 0);
         due("leans(e, 01210)", x.leans(0, z), 0);
         due("leans(02, 01210)", x.leans(keep(x, "02"), z), 1);
+        due("leans(7 letters, 8 letters)", x.leans(keep(x, "0102103"), keep(x, "01021032")), 1);
         int nine = keep(x, "010210321");
         due("leans(0, nine)", x.leans(0, nine), LARGE);
         due("leans(99, nine)", x.leans(99, nine), UNKNOWN);
