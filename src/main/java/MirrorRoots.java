@@ -822,11 +822,11 @@ public final class MirrorRoots {
         private final Shelf shelf;
         private final long[] row = new long[ROW];
         private final long[] ways = new long[MOST_ROWS];
-        // How many elements have each length; from tooMany on they are not known, being over 2000 together.
+        // How many elements have each length up to countedTo; from tooMany on they are over 2000 together.
         private final int[] counts = new int[MOST_LENGTH + 2];
         private int tooMany;
         private int all;
-        private boolean counted = false;
+        private int countedTo = NONE;
 
         private Layers(Mirrors mirrors, Kept kept) {
             this.mirrors = mirrors;
@@ -835,21 +835,21 @@ public final class MirrorRoots {
         }
 
         private void forget() {
-            counted = false;
+            countedTo = NONE;
         }
 
         private int countOfLength(int size) {
-            countElements();
+            countElements(size);
             return size >= tooMany ? LARGE : counts[size];
         }
 
         private int countAll() {
-            countElements();
+            countElements(MOST_LENGTH + 1);
             return isWhole() ? all : LARGE;
         }
 
         private int greatestLength() {
-            countElements();
+            countElements(MOST_LENGTH + 1);
             if (!isWhole()) return LARGE;
             int size = MOST_LENGTH;
             while (size > 0 && counts[size] == 0) size--;
@@ -860,19 +860,21 @@ public final class MirrorRoots {
             return tooMany > MOST_LENGTH + 1 && counts[MOST_LENGTH + 1] == 0;
         }
 
-        private void countElements() {
-            if (counted) return;
+        /** Counts elements up to a length, unless that was done. */
+        private void countElements(int longest) {
+            if (longest <= countedTo) return;
             for (int i = 0; i < counts.length; i++) counts[i] = 0;
             shelf.clear();
             mirrors.startWeights(row, 0);
             shelf.putLast(row, 0);
             counts[0] = 1;
             for (int x = 0; x < shelf.many && shelf.many <= MOST_COUNTED; x++) {
-                if (shelf.lengths[x] <= MOST_LENGTH) putLonger(x);
+                if (shelf.lengths[x] < longest) putLonger(x);
             }
             all = shelf.many;
-            tooMany = all > MOST_COUNTED ? shelf.lengths[all - 1] : counts.length;
-            counted = true;
+            boolean over = all > MOST_COUNTED;
+            tooMany = over ? shelf.lengths[all - 1] : counts.length;
+            countedTo = over ? counts.length : longest;
         }
 
         /** Each element comes once: behind the one that its word leaves without its first letter. */
@@ -1177,7 +1179,7 @@ public final class MirrorRoots {
             return y;
         }
 
-        /** Fills the row of P (u, w) for all u; it asks for rows of shorter elements only, so it goes 8 deep at most. */
+        /** Fills the row of P (u, w) for all u. It asks for rows of shorter elements only, so it goes 8 deep at most. */
         private static void fill(Ideal at, int w, int deeper) {
             if (at.filled[w] || deeper < 0) return;
             at.filled[w] = true;
