@@ -17,7 +17,7 @@ public final class BoundaryTests {
     private static final String ALL_NEVER = "mirrors 5;01never;02never;03never;04never;12never;13never;14never;23never;24never;34never;";
     // 2000 of LENGTHS up to 7, 1215 of them of LENGTH 7.
     private static final String JUST_2000 = "mirrors 4;01never;02never;034;124;133;";
-    // 2002 of LENGTHS up to 6, 681 of them up to 5: no group of five mirrors has just 2001.
+    // 2002 of LENGTHS up to 6, 681 of them up to 5: of all groups none has just 2001.
     private static final String JUST_ABOVE_2000 = "mirrors 5;016;033;043;123;134;144;343;";
     private static final String SHIFTS_300 = "mirrors 5;013;123;233;34never;", WORD_300 = "21321434323411323010";
     private static final String SHIFTS_301 = "mirrors 5;013;143;233;244;", WORD_301 = "14021430123421400213";
@@ -572,6 +572,9 @@ public final class BoundaryTests {
             reads("0" + c + "3;", 1, 1);
             reads("013" + c + ";", 1, 3);
         }
+        // As many letters, but others.
+        for (String word : new String[] {"nirrors", "mirrort", "minnors", "mmmmmmm", "srorrim"}) reads(word + " 2;", 1, 0);
+        for (String word : new String[] {"mever", "nevel", "nezer", "eeeee", "reven"}) reads("01 " + word + ";", 1, 3);
         reads("Mirrors 2;", 1, 0);
         reads("mirrorS 2;", 1, 0);
         reads("01 Never;", 1, 3);
@@ -659,6 +662,19 @@ public final class BoundaryTests {
             due("keep() of no letters", y.keep(), 0);
             due("keep()", y.keep("3"), 1);
         }
+        // What was counted for one GROUP is not told of the next.
+        Box u = group(A4);
+        int w = u.keep("1021");
+        due("whole(0)", u.whole(0), 120);
+        due("growth(3)", u.growth(3), 15);
+        due("shifts(w, 2)", u.shifts(w, 2), 2);
+        due("rough(w)", u.rough(w), 2);
+        u.group("mirrors 4;");
+        due("keep()", u.keep("0123"), w);
+        due("rough(w)", u.rough(w), 0);
+        due("shifts(w, 2)", u.shifts(w, 2), 1);
+        due("growth(3)", u.growth(3), 4);
+        due("whole(0)", u.whole(0), 16);
         // The same GROUP once more: its ELEMENTS are gone all the same.
         Box z = group(A4);
         z.keep("01");
@@ -1059,6 +1075,12 @@ public final class BoundaryTests {
         due("length of u, w", x.length(ab), 18);
         due("times(u, w)", x.times(a, b), LARGE);
         due("times(u, w, w back)", x.times(ab, x.back(b)), LARGE);
+        // Down to 19 and up to 20 is inside, up to 21 is outside.
+        Box v = group("mirrors 3;01never;02never;12never;");
+        int twenty = v.keep(ZERO), back20 = v.keep("12"), to21 = v.keep("120");
+        due("times down and up to 20", v.times(twenty, back20), 4);
+        due("length", v.length(4), 20);
+        due("times down and up to 21", v.times(twenty, to21), LARGE);
         // Not letters of u ahead of w: that way it does not come above 20.
         Box y = group(NEVER2);
         int long20 = y.keep(ZERO), zero = y.keep("0");

@@ -662,14 +662,19 @@ public final class PlainModelRuns {
         final MirrorRoots x = new MirrorRoots();
         final Plain model = new Plain();
         final StringBuilder calls = new StringBuilder();
+        int made = 0;
 
         Run(long seed) {
             this.seed = seed;
             random = new Random(seed);
         }
 
+        /** Behind the 512th call nothing is promised. */
+        boolean hasRoomFor(int calls) { return made + calls <= 512; }
+
         void due(String call, long got, long want) {
             compared++;
+            made++;
             calls.append(call).append(' ');
             if (got == want) return;
             wrong++;
@@ -682,7 +687,7 @@ public final class PlainModelRuns {
             if (random.nextInt(8) != 0) tellGroup();
             int calls = 100 + random.nextInt(150);
             boolean full = random.nextInt(6) == 0;
-            for (int i = 0; i < calls && wrong < 20; i++) {
+            for (int i = 0; i < calls && wrong < 20 && hasRoomFor(42); i++) {
                 if (random.nextInt(250) == 0) tellGroup();
                 else if (random.nextInt(100) < (full ? 60 : model.elements.size() < 8 ? 40 : 12)) draftWord();
                 else call();
@@ -700,7 +705,7 @@ public final class PlainModelRuns {
         }
 
         void tellGroup() {
-            for (int tries = 0; tries < 12; tries++) {
+            for (int tries = 0; tries < 12 && hasRoomFor(122); tries++) {
                 String text = groupText();
                 if (random.nextInt(3) == 0) text = spoilt(text);
                 feedText(text);

@@ -216,7 +216,7 @@ public final class MirrorRoots {
         if (!kept.has(u) || !kept.has(w)) return UNKNOWN;
         if (k < 0) return OUTSIDE;
         if (kept.lengths[w] > SHORT) return LARGE;
-        return needIdeal(w).numberAt(u, k);
+        return needIdeal().under(w).numberAt(u, k);
     }
 
     public int leans(int u, int w) {
@@ -224,18 +224,17 @@ public final class MirrorRoots {
         if (kept.lengths[w] > SHORT) return LARGE;
         int apart = kept.lengths[w] - kept.lengths[u];
         if (apart < 0 || apart % 2 == 0) return 0;
-        return needIdeal(w).numberAt(u, (apart - 1) / 2);
+        return needIdeal().under(w).numberAt(u, (apart - 1) / 2);
     }
 
     public int rough(int w) {
         if (!kept.has(w)) return UNKNOWN;
         if (kept.lengths[w] > SHORT) return LARGE;
-        return needIdeal(w).countRough();
+        return needIdeal().under(w).countRough();
     }
 
-    private Ideal needIdeal(int w) {
+    private Ideal needIdeal() {
         if (ideal == null) ideal = new Ideal(mirrors, kept);
-        ideal.prepare(w);
         return ideal;
     }
 
@@ -894,7 +893,7 @@ public final class MirrorRoots {
             mirrors.copyRow(kept.right, w * ROW, row, 0);
             shelf.numberOf(row, kept.lengths[w]);
             ways[0] = 1;
-            for (int x = 0; x < shelf.many; x++) {
+            for (int x = 0; x < shelf.many && x < MOST_ROWS; x++) {
                 for (int s = 0; s < mirrors.many; s++) {
                     if (shelf.isBelow(x, s)) addWays(x, s);
                 }
@@ -971,7 +970,7 @@ public final class MirrorRoots {
                 mirrors.startRoot(images, i * ROW, i);
                 for (int a = kept.lengths[w] - 1; a >= 0; a--) mirrors.turnRoot(images, i * ROW, kept.letterOf(w, a));
             }
-            for (int x = 0; x < shelf.many; x++) {
+            for (int x = 0; x < shelf.many && x < MOST; x++) {
                 for (int s = 0; s < mirrors.many; s++) {
                     if (!step(x, s)) return false;
                 }
@@ -1129,13 +1128,14 @@ public final class MirrorRoots {
         }
 
         /** Makes w the top, of whose polynomials the other calls tell. */
-        private void prepare(int w) {
-            if (of == w) return;
+        private Ideal under(int w) {
+            if (of == w) return this;
             gather(w);
             mirrors.copyRow(kept.right, w * ROW, row, 0);
             top = shelf.find(row);
             if (top != NONE) fill(this, top, SHORT);
             of = w;
+            return this;
         }
 
         /** Puts all that is left of the word of w without some letters on the shelf, by its weights on the right. */
