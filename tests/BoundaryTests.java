@@ -618,6 +618,8 @@ public final class BoundaryTests {
         reads("013;0 0 3;", 2, 6);
         reads("013;029;013;", 2, 6);
         reads("013;013;mirrors;", 3, 4);
+        reads("013 013;", 1, 4);
+        reads("01 01 3;", 2, 3);
     }
 
     private static void toldAlready() {
