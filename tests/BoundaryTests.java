@@ -736,33 +736,25 @@ public final class BoundaryTests {
 
     // ---- promises 5, 6, 7
 
-    private static void pairsOutside() {
+    interface OfTwo { long on(Box x, int a, int b); }
+
+    /** For each number of MIRRORS: the last pair, and numbers outside at either place. */
+    private static void pairsOutside(String call, OfTwo asking, int ofOne, int ofUnlike) {
         for (int n = 1; n <= 5; n++) {
             Box x = group("mirrors " + n + ";");
-            due("turns(last, last)", x.turns(n - 1, n - 1), 1);
-            due("number(last, last)", x.number(n - 1, n - 1), 2);
-            due("turns(0, last)", x.turns(0, n - 1), n == 1 ? 1 : 2);
-            due("number(last, 0)", x.number(n - 1, 0), n == 1 ? 2 : 0);
-            for (int i : new int[] {n, n + 1, 5, 6, 24, 25}) {
-                if (i < n) continue;
-                due("turns(" + i + ", 0)", x.turns(i, 0), OUTSIDE);
-                due("turns(0, " + i + ")", x.turns(0, i), OUTSIDE);
-                due("turns(" + i + ", " + i + ")", x.turns(i, i), OUTSIDE);
-                due("number(" + i + ", 0)", x.number(i, 0), OUTSIDE);
-                due("number(0, " + i + ")", x.number(0, i), OUTSIDE);
-                due("number(" + i + ", " + i + ")", x.number(i, i), OUTSIDE);
-            }
-            for (int i : ELSEWHERE) {
-                due("turns(" + i + ", 0)", x.turns(i, 0), OUTSIDE);
-                due("turns(0, " + i + ")", x.turns(0, i), OUTSIDE);
-                due("number(" + i + ", 0)", x.number(i, 0), OUTSIDE);
-                due("number(0, " + i + ")", x.number(0, i), OUTSIDE);
+            due(call + " of the last", asking.on(x, n - 1, n - 1), ofOne);
+            due(call + " of 0 and the last", asking.on(x, 0, n - 1), n == 1 ? ofOne : ofUnlike);
+            due(call + " of the last and 0", asking.on(x, n - 1, 0), n == 1 ? ofOne : ofUnlike);
+            for (int i : new int[] {n, n + 1, 5 + n, 24, 25, -1, -2, MIN, MAX}) {
+                due(call + " of " + i + ", 0", asking.on(x, i, 0), OUTSIDE);
+                due(call + " of 0, " + i, asking.on(x, 0, i), OUTSIDE);
+                due(call + " of " + i + ", " + i, asking.on(x, i, i), OUTSIDE);
             }
         }
-        refused("turns(4, 0)", BoundaryTests::some, x -> x.turns(4, 0), OUTSIDE);
-        refused("turns(0, -1)", BoundaryTests::some, x -> x.turns(0, -1), OUTSIDE);
-        refused("number(-1, 0)", BoundaryTests::some, x -> x.number(-1, 0), OUTSIDE);
-        refused("number(0, 4)", BoundaryTests::some, x -> x.number(0, 4), OUTSIDE);
+        for (int i : new int[] {4, -1}) {
+            refused(call + " of " + i + ", 0", BoundaryTests::some, x -> asking.on(x, i, 0), OUTSIDE);
+            refused(call + " of 0, " + i, BoundaryTests::some, x -> asking.on(x, 0, i), OUTSIDE);
+        }
     }
 
     private static void numbersOfPairs() {
@@ -890,55 +882,51 @@ public final class BoundaryTests {
 
     // ---- promises 10 to 13
 
-    private static void unknownElements() {
+    interface OfElement { long on(Box x, int w); }
+
+    /** The last element is known, the next one is not; nor is any number elsewhere. Nothing is changed by asking. */
+    private static void unknown(String call, OfElement asking) {
         for (Maker maker : new Maker[] {Box::new, BoundaryTests::some, BoundaryTests::full, BoundaryTests::wide}) {
-            int m = maker.make().count(1);
-            due("length of the last", maker.make().length(m - 1) >= 0 ? 0 : 1, 0);
             Box x = maker.make();
+            int m = x.count(1);
             for (int w : new int[] {m, m + 1, 40, 41, -1, MIN, MAX}) {
-                if (w >= 0 && w < m) continue;
-                due("length(" + w + ")", x.length(w), UNKNOWN);
-                due("at(" + w + ", 0)", x.at(w, 0), UNKNOWN);
-                due("down(" + w + ", 0)", x.down(w, 0), UNKNOWN);
-                due("root(" + w + ", 0, 0)", x.root(w, 0, 0), UNKNOWN);
-                due("times(" + w + ", 0)", x.times(w, 0), UNKNOWN);
-                due("times(0, " + w + ")", x.times(0, w), UNKNOWN);
-                due("back(" + w + ")", x.back(w), UNKNOWN);
-                due("below(" + w + ", 0)", x.below(w, 0), UNKNOWN);
-                due("below(0, " + w + ")", x.below(0, w), UNKNOWN);
-                due("covers(" + w + ")", x.covers(w), UNKNOWN);
-                due("words(" + w + ")", x.words(w), UNKNOWN);
-                due("exchange(" + w + ", 0)", x.exchange(w, 0), UNKNOWN);
-                due("inversion(" + w + ", 0, 0)", x.inversion(w, 0, 0), UNKNOWN);
-                due("coset(" + w + ", 0, 0)", x.coset(w, 0, 0), UNKNOWN);
-                due("both(" + w + ", 0, 0)", x.both(w, 0, 0), UNKNOWN);
-                due("order(" + w + ")", x.order(w), UNKNOWN);
-                due("shifts(" + w + ", 0)", x.shifts(w, 0), UNKNOWN);
-                due("r(" + w + ", 0, 0)", x.r(w, 0, 0), UNKNOWN);
-                due("r(0, " + w + ", 0)", x.r(0, w, 0), UNKNOWN);
-                due("p(" + w + ", 0, 0)", x.p(w, 0, 0), UNKNOWN);
-                due("p(0, " + w + ", 0)", x.p(0, w, 0), UNKNOWN);
-                due("leans(" + w + ", 0)", x.leans(w, 0), UNKNOWN);
-                due("leans(0, " + w + ")", x.leans(0, w), UNKNOWN);
-                due("rough(" + w + ")", x.rough(w), UNKNOWN);
+                if (w >= m || w < 0) due(call + " of " + w, asking.on(x, w), UNKNOWN);
             }
             due("elements", x.count(1), m);
+            if (asking.on(x, m - 1) == UNKNOWN) complain(call + " of the last, " + (m - 1) + ", answered UNKNOWN");
         }
+        int m = some().count(1);
+        refused(call + " of an unknown element", BoundaryTests::some, x -> asking.on(x, m), UNKNOWN);
+        refused(call + " of element -1", BoundaryTests::some, x -> asking.on(x, -1), UNKNOWN);
+        refused(call + " of element 40", BoundaryTests::full, x -> asking.on(x, 40), UNKNOWN);
     }
 
-    private static void unknownChangesNothing() {
-        int m = some().count(1);
-        Call[] calls = {
-            x -> x.length(m), x -> x.at(m, 0), x -> x.down(m, 0), x -> x.root(m, 0, 0), x -> x.times(m, 1), x -> x.times(1, m),
-            x -> x.back(m), x -> x.below(m, 1), x -> x.below(1, m), x -> x.covers(m), x -> x.words(m), x -> x.exchange(m, 0),
-            x -> x.inversion(m, 0, 0), x -> x.coset(m, 1, 0), x -> x.both(m, 1, 1), x -> x.order(m), x -> x.shifts(m, 0),
-            x -> x.r(m, 1, 0), x -> x.r(1, m, 0), x -> x.p(m, 1, 0), x -> x.p(1, m, 0), x -> x.leans(m, 1), x -> x.leans(1, m),
-            x -> x.rough(m)};
-        for (int i = 0; i < calls.length; i++) refused("call " + i + " of an unknown element", BoundaryTests::some, calls[i], UNKNOWN);
-        Call[] of40 = {
-            x -> x.length(40), x -> x.times(40, 1), x -> x.times(1, 40), x -> x.back(40), x -> x.coset(40, 1, 0), x -> x.shifts(40, 0),
-            x -> x.p(1, 40, 0), x -> x.rough(40)};
-        for (int i = 0; i < of40.length; i++) refused("call " + i + " of element 40", BoundaryTests::full, of40[i], UNKNOWN);
+    private static void unknowns() {
+        test("10: UNKNOWN", () -> unknown("length(w)", (x, w) -> x.length(w)));
+        test("11: UNKNOWN", () -> unknown("at(w, 0)", (x, w) -> x.at(w, 0)));
+        test("12: UNKNOWN", () -> unknown("down(w, 0)", (x, w) -> x.down(w, 0)));
+        test("13: UNKNOWN", () -> unknown("root(w, 0, 0)", (x, w) -> x.root(w, 0, 0)));
+        test("14: UNKNOWN (u)", () -> unknown("times(w, 0)", (x, w) -> x.times(w, 0)));
+        test("14: UNKNOWN (w)", () -> unknown("times(0, w)", (x, w) -> x.times(0, w)));
+        test("15: UNKNOWN", () -> unknown("back(w)", (x, w) -> x.back(w)));
+        test("16: UNKNOWN (u)", () -> unknown("below(w, 0)", (x, w) -> x.below(w, 0)));
+        test("16: UNKNOWN (w)", () -> unknown("below(0, w)", (x, w) -> x.below(0, w)));
+        test("17: UNKNOWN", () -> unknown("covers(w)", (x, w) -> x.covers(w)));
+        test("18: UNKNOWN", () -> unknown("words(w)", (x, w) -> x.words(w)));
+        test("19: UNKNOWN", () -> unknown("exchange(w, 0)", (x, w) -> x.exchange(w, 0)));
+        test("20: UNKNOWN", () -> unknown("inversion(w, 0, 0)", (x, w) -> x.inversion(w, 0, 0)));
+        test("21: UNKNOWN", () -> unknown("coset(w, 0, 0)", (x, w) -> x.coset(w, 0, 0)));
+        test("21: UNKNOWN (what is left)", () -> unknown("coset(w, 1, 1)", (x, w) -> x.coset(w, 1, 1)));
+        test("22: UNKNOWN", () -> unknown("both(w, 0, 0)", (x, w) -> x.both(w, 0, 0)));
+        test("25: UNKNOWN", () -> unknown("order(w)", (x, w) -> x.order(w)));
+        test("26: UNKNOWN", () -> unknown("shifts(w, 0)", (x, w) -> x.shifts(w, 0)));
+        test("27: UNKNOWN (u)", () -> unknown("r(w, 0, 0)", (x, w) -> x.r(w, 0, 0)));
+        test("27: UNKNOWN (w)", () -> unknown("r(0, w, 0)", (x, w) -> x.r(0, w, 0)));
+        test("28: UNKNOWN (u)", () -> unknown("p(w, 0, 0)", (x, w) -> x.p(w, 0, 0)));
+        test("28: UNKNOWN (w)", () -> unknown("p(0, w, 0)", (x, w) -> x.p(0, w, 0)));
+        test("29: UNKNOWN (u)", () -> unknown("leans(w, 0)", (x, w) -> x.leans(w, 0)));
+        test("29: UNKNOWN (w)", () -> unknown("leans(0, w)", (x, w) -> x.leans(0, w)));
+        test("30: UNKNOWN", () -> unknown("rough(w)", (x, w) -> x.rough(w)));
     }
 
     private static void lengthBounds() {
@@ -1225,6 +1213,8 @@ public final class BoundaryTests {
 
     // ---- promises 21, 22
 
+    private static final int[] NO_SETS = {-1, -2, MIN, MAX, 1 << 16};
+
     private static void cosetSets() {
         for (int n = 1; n <= 5; n++) {
             Box x = group("mirrors " + n + ";");
@@ -1236,13 +1226,10 @@ public final class BoundaryTests {
             due("coset(w, all, 1)", x.coset(w, all, 1), w);
             due("coset(0, all, 0)", x.coset(0, all, 0), 0);
             due("coset(0, all, 1)", x.coset(0, all, 1), 0);
-            for (int set : new int[] {all + 1, all + 2, -1, MIN, MAX, 1 << 16}) {
-                due("coset(w, " + set + ", 0)", x.coset(w, set, 0), OUTSIDE);
-                due("coset(w, " + set + ", 1)", x.coset(w, set, 1), OUTSIDE);
-                due("coset(9, " + set + ", 0)", x.coset(9, set, 0), UNKNOWN);
-                due("both(w, " + set + ", 0)", x.both(w, set, 0), OUTSIDE);
-                due("both(w, 0, " + set + ")", x.both(w, 0, set), OUTSIDE);
-                due("both(9, " + set + ", 0)", x.both(9, set, 0), UNKNOWN);
+            for (int what = 0; what < 2; what++) {
+                due("coset(w, all + 1, what)", x.coset(w, all + 1, what), OUTSIDE);
+                due("coset(9, all + 1, what)", x.coset(9, all + 1, what), UNKNOWN);
+                for (int set : NO_SETS) due("coset(w, " + set + ", what)", x.coset(w, set, what), OUTSIDE);
             }
             due("elements", x.count(1), 2);
         }
@@ -1252,6 +1239,27 @@ public final class BoundaryTests {
         dueWord("coset(w, 16, 0)", y.word(y.coset(w, 16, 0)), "0123");
         dueWord("coset(w, 16, 1)", y.word(y.coset(w, 16, 1)), "4");
         dueWord("coset(w, 1, 0)", y.word(y.coset(w, 1, 0)), "1234");
+    }
+
+    private static void bothSets() {
+        for (int n = 1; n <= 5; n++) {
+            Box x = group("mirrors " + n + ";");
+            int all = (1 << n) - 1;
+            int w = x.keep("01234".substring(0, n));
+            due("both(w, 0, 0)", x.both(w, 0, 0), n);
+            due("both(w, all, 0)", x.both(w, all, 0), 0);
+            due("both(w, 0, all)", x.both(w, 0, all), 0);
+            due("both(w, 0, last)", x.both(w, 0, 1 << n - 1), n - 1);
+            due("both(w, last, 0)", x.both(w, 1 << n - 1, 0), n - 1);
+            due("both(w, all + 1, 0)", x.both(w, all + 1, 0), OUTSIDE);
+            due("both(w, 0, all + 1)", x.both(w, 0, all + 1), OUTSIDE);
+            due("both(9, all + 1, all + 1)", x.both(9, all + 1, all + 1), UNKNOWN);
+            for (int set : NO_SETS) {
+                due("both(w, " + set + ", 0)", x.both(w, set, 0), OUTSIDE);
+                due("both(w, 0, " + set + ")", x.both(w, 0, set), OUTSIDE);
+            }
+            due("elements", x.count(1), 2);
+        }
     }
 
     private static void cosetWhat() {
@@ -1519,17 +1527,13 @@ public final class BoundaryTests {
 
     // ---- promises 27 to 30
 
-    private static void numbersOfRAndP() {
+    private static void numbersOfR() {
         Box x = some();
         due("r(0, 0, 0)", x.r(0, 0, 0), 1);
         due("r(0, 0, 1)", x.r(0, 0, 1), 0);
-        due("p(0, 0, 0)", x.p(0, 0, 0), 1);
-        due("p(0, 0, 1)", x.p(0, 0, 1), 0);
         due("r(w, w, 0)", x.r(4, 4, 0), 1);
         due("r(w, w, 1)", x.r(4, 4, 1), 0);
-        due("p(w, w, 0)", x.p(4, 4, 0), 1);
-        due("p(w, w, 1)", x.p(4, 4, 1), 0);
-        // The highest of R is at d: 8 here.
+        // The highest is at d: 8 and 7 here.
         due("r(0, w, 8)", x.r(0, 4, 8), 1);
         due("r(0, w, 9)", x.r(0, 4, 9), 0);
         due("r(0, w, 0)", x.r(0, 4, 0), 1);
@@ -1538,77 +1542,83 @@ public final class BoundaryTests {
         due("r(2, w, 0)", x.r(6, 4, 0), -1);
         // The draft, 32, has a 1 more behind it: of 01021032 no 1 is left behind 3.
         int apart = x.keep("1");
-        due("r(321, w, 0)", x.r(apart, 4, 0), 0);
-        due("p(321, w, 0)", x.p(apart, 4, 0), 0);
-        due("r(w, 0, 0)", x.r(4, 0, 0), 0);
-        due("p(w, 0, 0)", x.p(4, 0, 0), 0);
-        for (int k : new int[] {64, 1 << 16, MAX - 1, MAX}) {
-            due("r(0, w, " + k + ")", x.r(0, 4, k), 0);
-            due("p(0, w, " + k + ")", x.p(0, 4, k), 0);
+        for (int k = 0; k < 9; k++) {
+            due("r(321, w, " + k + "), not below", x.r(apart, 4, k), 0);
+            due("r(w, 0, " + k + "), not below", x.r(4, 0, k), 0);
+            due("r(ten letters, w, " + k + "), not below", x.r(3, 4, k), 0);
         }
-        Box y = group(STEEP);
-        int steep = y.keep(STEEP_WORD);
-        int[] p = {1, 1, 2, 1, 0, 0, 0, 0, 0};
-        for (int k = 0; k < p.length; k++) due("p(0, steep, " + k + ")", y.p(0, steep, k), p[k]);
+        for (int k : new int[] {64, 1 << 16, MAX - 1, MAX}) due("r(0, w, " + k + ")", x.r(0, 4, k), 0);
     }
 
-    private static void kBelowZero() {
+    private static void numbersOfP() {
         Box x = some();
-        for (int k : new int[] {-1, -2, -1001, MIN + 1, MIN}) {
-            due("r(0, w, " + k + ")", x.r(0, 4, k), OUTSIDE);
-            due("p(0, w, " + k + ")", x.p(0, 4, k), OUTSIDE);
-            due("r(w, 0, " + k + ")", x.r(4, 0, k), OUTSIDE);
-            due("p(w, 0, " + k + ")", x.p(4, 0, k), OUTSIDE);
-            due("r(0, nine, " + k + "): ahead of LARGE", x.r(0, 5, k), OUTSIDE);
-            due("p(0, nine, " + k + "): ahead of LARGE", x.p(0, 5, k), OUTSIDE);
-            due("r(7, nine, " + k + ")", x.r(7, 5, k), UNKNOWN);
-            due("p(7, nine, " + k + ")", x.p(7, 5, k), UNKNOWN);
-            due("r(0, 7, " + k + ")", x.r(0, 7, k), UNKNOWN);
-            due("p(0, 7, " + k + ")", x.p(0, 7, k), UNKNOWN);
+        due("p(0, 0, 0)", x.p(0, 0, 0), 1);
+        due("p(0, 0, 1)", x.p(0, 0, 1), 0);
+        due("p(w, w, 0)", x.p(4, 4, 0), 1);
+        due("p(w, w, 1)", x.p(4, 4, 1), 0);
+        int apart = x.keep("1");
+        for (int k = 0; k < 5; k++) {
+            due("p(321, w, " + k + "), not below", x.p(apart, 4, k), 0);
+            due("p(w, 0, " + k + "), not below", x.p(4, 0, k), 0);
+            due("p(ten letters, w, " + k + "), not below", x.p(3, 4, k), 0);
         }
-        refused("r OUTSIDE", BoundaryTests::some, y -> y.r(0, 4, -1), OUTSIDE);
-        refused("r OUTSIDE ahead of LARGE", BoundaryTests::some, y -> y.r(0, 5, -1), OUTSIDE);
-        refused("r UNKNOWN ahead of OUTSIDE", BoundaryTests::some, y -> y.r(7, 5, -1), UNKNOWN);
-        refused("p OUTSIDE", BoundaryTests::some, y -> y.p(0, 4, -1), OUTSIDE);
-        refused("p OUTSIDE ahead of LARGE", BoundaryTests::some, y -> y.p(0, 5, -1), OUTSIDE);
-        refused("p UNKNOWN ahead of OUTSIDE", BoundaryTests::some, y -> y.p(7, 5, -1), UNKNOWN);
+        for (int k : new int[] {64, 1 << 16, MAX - 1, MAX}) due("p(0, w, " + k + ")", x.p(0, 4, k), 0);
+        // The highest degree there can be: d is 8 and 7, so 3.
+        Box y = group(STEEP);
+        int steep = y.keep(STEEP_WORD), two = y.keep("2");
+        int[] p = {1, 1, 2, 1, 0, 0, 0, 0, 0};
+        for (int k = 0; k < p.length; k++) {
+            due("p(0, steep, " + k + ")", y.p(0, steep, k), p[k]);
+            due("p(2, steep, " + k + ")", y.p(two, steep, k), p[k]);
+        }
     }
 
-    private static void polynomialsTo8() {
+    interface OfPair { long on(Box x, int u, int w, int k); }
+
+    private static void kBelowZero(String call, OfPair asking) {
+        Box x = some();
+        due(call + " at 0", asking.on(x, 0, 4, 0), 1);
+        for (int k : new int[] {-1, -2, -1001, MIN + 1, MIN}) {
+            due(call + "(0, w, " + k + ")", asking.on(x, 0, 4, k), OUTSIDE);
+            due(call + "(w, 0, " + k + ")", asking.on(x, 4, 0, k), OUTSIDE);
+            due(call + "(0, nine, " + k + "): ahead of LARGE", asking.on(x, 0, 5, k), OUTSIDE);
+            due(call + "(7, nine, " + k + "): behind UNKNOWN", asking.on(x, 7, 5, k), UNKNOWN);
+            due(call + "(0, 7, " + k + "): behind UNKNOWN", asking.on(x, 0, 7, k), UNKNOWN);
+        }
+        refused(call + " OUTSIDE", BoundaryTests::some, y -> asking.on(y, 0, 4, -1), OUTSIDE);
+        refused(call + " OUTSIDE ahead of LARGE", BoundaryTests::some, y -> asking.on(y, 0, 5, -1), OUTSIDE);
+        refused(call + " UNKNOWN ahead of OUTSIDE", BoundaryTests::some, y -> asking.on(y, 7, 5, -1), UNKNOWN);
+    }
+
+    /** LENGTH of w 8 at most; that of u has no bound, but then it does not stand below. */
+    private static void lengthTo8(String call, OfPair asking, int ofSevenAndEight) {
         Box x = some();
         x.keep();
         int seven = x.keep("0102103");
-        due("p(0, eight, 0)", x.p(0, 4, 0), 1);
-        due("leans(seven, eight)", x.leans(seven, 4), 1);
-        due("rough(eight)", x.rough(4), 0);
-        for (int u : new int[] {0, 1, 4, 5, 3}) {
-            due("r(" + u + ", nine, 0)", x.r(u, 5, 0), LARGE);
-            due("r(" + u + ", nine, MAX)", x.r(u, 5, MAX), LARGE);
-            due("p(" + u + ", nine, 0)", x.p(u, 5, 0), LARGE);
-            due("p(" + u + ", nine, MAX)", x.p(u, 5, MAX), LARGE);
-            due("leans(" + u + ", nine)", x.leans(u, 5), LARGE);
-            due("leans(" + u + ", ten)", x.leans(u, 3), LARGE);
-            due("r(" + u + ", ten, 0)", x.r(u, 3, 0), LARGE);
-            due("p(" + u + ", ten, 0)", x.p(u, 3, 0), LARGE);
+        due("length", x.length(seven), 7);
+        due(call + "(seven letters, eight)", asking.on(x, seven, 4, 0), ofSevenAndEight);
+        for (int u : new int[] {5, 3}) due(call + "(" + u + ", eight), not below", asking.on(x, u, 4, 0), 0);
+        for (int u : new int[] {0, 1, 4, 5, 3, seven}) {
+            due(call + "(" + u + ", nine)", asking.on(x, u, 5, 0), LARGE);
+            due(call + "(" + u + ", nine), far up", asking.on(x, u, 5, MAX), LARGE);
+            due(call + "(" + u + ", ten)", asking.on(x, u, 3, 0), LARGE);
         }
+        due(call + "(99, nine): UNKNOWN ahead of LARGE", asking.on(x, 99, 5, 0), UNKNOWN);
+        refused(call + " LARGE", BoundaryTests::some, y -> asking.on(y, 0, 5, 0), LARGE);
+        refused(call + " LARGE", BoundaryTests::full, y -> asking.on(y, 0, zero(9), 0), LARGE);
+        refused(call + " LARGE", BoundaryTests::wide, y -> asking.on(y, 2, 1, 0), LARGE);
+        refused(call + " UNKNOWN ahead of LARGE", BoundaryTests::some, y -> asking.on(y, 7, 5, 0), UNKNOWN);
+    }
+
+    private static void roughTo8() {
+        Box x = some();
+        due("rough(eight)", x.rough(4), 0);
         due("rough(nine)", x.rough(5), LARGE);
         due("rough(ten)", x.rough(3), LARGE);
-        // The LENGTH of u has no bound.
-        for (int u : new int[] {5, 3}) {
-            due("r(" + u + ", eight, 0)", x.r(u, 4, 0), 0);
-            due("p(" + u + ", eight, 0)", x.p(u, 4, 0), 0);
-            due("leans(" + u + ", eight)", x.leans(u, 4), 0);
-        }
-        refused("r LARGE", BoundaryTests::some, y -> y.r(0, 5, 0), LARGE);
-        refused("p LARGE", BoundaryTests::some, y -> y.p(0, 5, 0), LARGE);
-        refused("leans LARGE", BoundaryTests::some, y -> y.leans(0, 5), LARGE);
+        due("rough(7)", x.rough(7), UNKNOWN);
         refused("rough LARGE", BoundaryTests::some, y -> y.rough(5), LARGE);
-        refused("r LARGE", BoundaryTests::full, y -> y.r(0, zero(9), 0), LARGE);
-        refused("p LARGE", BoundaryTests::wide, y -> y.p(2, 1, 0), LARGE);
-        refused("leans LARGE", BoundaryTests::wide, y -> y.leans(2, 1), LARGE);
+        refused("rough LARGE", BoundaryTests::full, y -> y.rough(zero(9)), LARGE);
         refused("rough LARGE", BoundaryTests::wide, y -> y.rough(1), LARGE);
-        refused("leans UNKNOWN ahead of LARGE", BoundaryTests::some, y -> y.leans(7, 5), UNKNOWN);
-        refused("rough UNKNOWN", BoundaryTests::some, y -> y.rough(7), UNKNOWN);
     }
 
     private static void leansEdges() {
@@ -1719,8 +1729,9 @@ public final class BoundaryTests {
         test("4: at the first byte that has one", BoundaryTests::firstByteThatHasOne);
         test("4: a pair that was told already", BoundaryTests::toldAlready);
         test("4: the latest read(); NONE", BoundaryTests::faultOfTheLatestRead);
-        test("5, 6: OUTSIDE", BoundaryTests::pairsOutside);
-        test("6: NUMBERS of each TURNS", BoundaryTests::numbersOfPairs);
+        test("5: OUTSIDE; 1 of one with itself", () -> pairsOutside("turns", (x, i, j) -> x.turns(i, j), 1, 2));
+        test("6: OUTSIDE; A (i, i)", () -> pairsOutside("number", (x, i, j) -> x.number(i, j), 2, 0));
+        test("5, 6: TURNS and their NUMBERS", BoundaryTests::numbersOfPairs);
         test("7: OUTSIDE; none and the most", BoundaryTests::counts);
         test("8: OUTSIDE", BoundaryTests::letterBounds);
         test("8: FULL: 20", BoundaryTests::twentyLetters);
@@ -1728,8 +1739,7 @@ public final class BoundaryTests {
         test("9: up to 20 letters", BoundaryTests::keepTwenty);
         test("9: one that is kept already", BoundaryTests::keepKept);
         test("9: FULL (40 at most)", BoundaryTests::keepForty);
-        test("10 .. 30: UNKNOWN", BoundaryTests::unknownElements);
-        test("10 .. 30: UNKNOWN changes nothing", BoundaryTests::unknownChangesNothing);
+        unknowns();
         test("10: LENGTH 0 .. 20", BoundaryTests::lengthBounds);
         test("11: NONE", BoundaryTests::atBounds);
         test("11: the first of the shortest", BoundaryTests::firstOfTheShortest);
@@ -1746,11 +1756,12 @@ public final class BoundaryTests {
         test("18: LARGE, above 12", BoundaryTests::wordsTo12);
         test("19: OUTSIDE, NOT", BoundaryTests::exchangeEdges);
         test("20: 0; OUTSIDE", BoundaryTests::inversionEdges);
-        test("21, 22: SETS", BoundaryTests::cosetSets);
-        test("21: what = 0, 1", BoundaryTests::cosetWhat);
+        test("21: OUTSIDE (a SET)", BoundaryTests::cosetSets);
+        test("21: OUTSIDE (what)", BoundaryTests::cosetWhat);
         test("21: is kept", BoundaryTests::cosetKeepsOne);
         test("21: FULL", BoundaryTests::cosetFull);
-        test("22: OUTSIDE; none and all", BoundaryTests::bothEdges);
+        test("22: OUTSIDE (a SET)", BoundaryTests::bothSets);
+        test("22: none and all", BoundaryTests::bothEdges);
         test("23: 0 .. 20", BoundaryTests::growthBounds);
         test("23: LARGE, more than 2000", BoundaryTests::growthTo2000);
         test("24: 2000 at most", BoundaryTests::wholeTo2000);
@@ -1760,11 +1771,17 @@ public final class BoundaryTests {
         test("26: just 300", BoundaryTests::shiftsTo300);
         test("26: LARGE, more than 300", BoundaryTests::shiftsAbove300);
         test("26: w, too; OUTSIDE", BoundaryTests::shiftsEdges);
-        test("27, 28: the number at q to the k; 0: none", BoundaryTests::numbersOfRAndP);
-        test("27, 28: k below 0", BoundaryTests::kBelowZero);
-        test("27 .. 30: LARGE, above 8", BoundaryTests::polynomialsTo8);
+        OfPair r = (x, u, w, k) -> x.r(u, w, k), p = (x, u, w, k) -> x.p(u, w, k), leans = (x, u, w, k) -> x.leans(u, w);
+        test("27: the number at q to the k; 0: none", BoundaryTests::numbersOfR);
+        test("27: OUTSIDE (k below 0)", () -> kBelowZero("r", r));
+        test("27: LARGE, above 8", () -> lengthTo8("r", r, -1));
+        test("28: the number at q to the k; 0: none", BoundaryTests::numbersOfP);
+        test("28: OUTSIDE (k below 0)", () -> kBelowZero("p", p));
+        test("28: LARGE, above 8", () -> lengthTo8("p", p, 1));
         test("29: d odd; else 0", BoundaryTests::leansEdges);
+        test("29: LARGE, above 8", () -> lengthTo8("leans", leans, 1));
         test("30: none that is rough", BoundaryTests::roughEdges);
+        test("30: LARGE, above 8", BoundaryTests::roughTo8);
         test("all: of several the first in this order", BoundaryTests::whichOfTheRefusals);
         System.out.println(wrong == 0 ? "all " + tests + " boundary tests hold" : wrong + " answers are not as due");
         if (wrong != 0) System.exit(1);
