@@ -1372,6 +1372,19 @@ public final class BoundaryTests {
         due("growth(20) then", y.growth(20), LARGE);
         due("growth(0) then", y.growth(0), 1);
         due("growth(7) again", y.growth(7), 1215);
+        // The same, if of LENGTH 8 just one is found with the 2001st, and with 978 of LENGTH 8.
+        String[] others = {"mirrors 4;014;02never;12never;134;233;", "mirrors 5;036;124;14never;24never;"};
+        int[][] last = {{7, 1215}, {8, 978}};
+        for (int i = 0; i < others.length; i++) {
+            Box u = group(others[i]);
+            due("growth(20) first", u.growth(20), LARGE);
+            due("growth of the last LENGTH", u.growth(last[i][0]), last[i][1]);
+            due("growth of the next LENGTH", u.growth(last[i][0] + 1), LARGE);
+            Box v = group(others[i]);
+            due("growth of the last LENGTH first", v.growth(last[i][0]), last[i][1]);
+            due("growth of the next LENGTH then", v.growth(last[i][0] + 1), LARGE);
+            due("growth of the last LENGTH again", v.growth(last[i][0]), last[i][1]);
+        }
         int[] above = {1, 5, 17, 52, 154, 452};
         Box z = group(JUST_ABOVE_2000);
         due("growth(6) first", z.growth(6), LARGE);
